@@ -4,6 +4,10 @@ final class All {
     }
 
     static String of(SlotConference x) {
+        return of(new Real(x));
+    }
+
+    static String of(Conference x) {
         StringBuilder all = new StringBuilder();
         all.append("season ").append(x.season()).append(" counts");
         for (int what = 0; what <= 5; what++) {
@@ -17,7 +21,7 @@ final class All {
         return all.toString();
     }
 
-    private static void requests(SlotConference x, StringBuilder all) {
+    private static void requests(Conference x, StringBuilder all) {
         for (int i = 0; i < x.count(0); i++) {
             all.append("request ").append(i).append(':');
             for (int what = 0; what <= 5; what++) {
@@ -27,7 +31,7 @@ final class All {
         }
     }
 
-    private static void series(SlotConference x, StringBuilder all) {
+    private static void series(Conference x, StringBuilder all) {
         for (int i = 0; i < x.count(4); i++) {
             all.append("series ").append(i).append(':');
             for (int what = 0; what <= 11; what++) {
@@ -37,7 +41,7 @@ final class All {
         }
     }
 
-    private static void rights(SlotConference x, StringBuilder all) {
+    private static void rights(Conference x, StringBuilder all) {
         for (int i = 0; i < x.rights(); i++) {
             all.append("right ").append(i).append(':');
             for (int what = 0; what <= 8; what++) {
@@ -47,7 +51,7 @@ final class All {
         }
     }
 
-    private static void airports(SlotConference x, StringBuilder all) {
+    private static void airports(Conference x, StringBuilder all) {
         for (int airport = 0; airport < 4; airport++) {
             all.append("airport ").append(airport).append(": noise ").append(x.noise(airport)).append(" new");
             for (int carrier = 0; carrier < 10; carrier++) {

@@ -1,0 +1,230 @@
+import java.util.Arrays;
+
+/** Long runs of calls, made by a fixed row of numbers, on the class and on the model: every answer is to be the same. */
+public final class ModelTest {
+    private static final int RUNS = 150;
+    private static final int CALLS = 512;
+    private static final String[] NAMES = {
+        "declare", "revise", "curfew", "quota", "merge", "request", "link", "confer", "accept", "giveBack", "swap",
+        "lease", "fly", "close", "end", "load", "worst", "noise", "requestOf", "ahead", "seriesOf", "earns", "rightOf",
+        "isNew", "count", "season", "rights"
+    };
+    private static final int[] OFTEN = {
+        4, 3, 2, 2, 1, 40, 8, 5, 12, 8, 4, 3, 40, 4, 1, 2, 3, 1, 3, 2, 2, 2, 2, 2, 1, 1, 1
+    };
+
+    private long seed;
+    /** Each run has a temper of its own: how crowded, how often wrong, how often a season ends. */
+    private int temper;
+
+    public static void main(String[] args) {
+        int runs = args.length > 0 ? Integer.parseInt(args[0]) : RUNS;
+        for (int run = 0; run < runs; run++) {
+            new ModelTest().compare(run);
+        }
+        Check.finish();
+    }
+
+    private int below(int bound) {
+        seed = seed * 6364136223846793005L + 1442695040888963407L;
+        return (int) Long.remainderUnsigned(seed >>> 33, bound);
+    }
+
+    private void compare(int run) {
+        seed = 977L * run + 13;
+        temper = run % 5;
+        Real real = new Real(new SlotConference());
+        Model model = new Model();
+        StringBuilder told = new StringBuilder();
+        for (int call = 0; call < CALLS; call++) {
+            int op = pick(call, model);
+            int[] a = arguments(op, model);
+            if (below(25) == 0 && a.length > 0) {
+                int[] odd = {-1, 60, Integer.MIN_VALUE, Integer.MAX_VALUE, 72, 20, 10, 7, 6, 4, 3, 2};
+                a[below(a.length)] = odd[below(odd.length)];
+            }
+            String line = NAMES[op] + Arrays.toString(a);
+            String got = answer(real, op, a);
+            String want = answer(model, op, a);
+            told.append(line).append(" = ").append(want).append('\n');
+            if (!got.equals(want)) {
+                Check.tell("run " + run + ", call " + call + ": " + line + " answered " + got + ", the model " + want);
+                return;
+            }
+            if (call % 8 == 7 || op == 7 || op == 9) {
+                String all = All.of(real);
+                String due = All.of(model);
+                Check.due("run " + run + ", call " + call + " " + line, all, due);
+                if (!all.equals(due)) {
+                    return;
+                }
+            }
+        }
+        Check.due("run " + run, 0, 0);
+    }
+
+    private int pick(int call, Model model) {
+        if (call < 6) {
+            return new int[] {0, 0, 0, 0, 3, 2}[call];
+        }
+        if (temper == 1 && below(12) == 0) {
+            return 14;
+        }
+        // Seasons in which most series are flown, so that there are rights to claim.
+        if (temper == 2 && model.count(4) > 0 && below(2) == 0) {
+            return 12;
+        }
+        int all = Arrays.stream(OFTEN).sum();
+        int left = below(all);
+        for (int op = 0; op < OFTEN.length; op++) {
+            left -= OFTEN[op];
+            if (left < 0) {
+                return op;
+            }
+        }
+        return 5;
+    }
+
+    private int airport() {
+        return below(3) > 0 ? 0 : below(4);
+    }
+
+    private int time() {
+        switch (below(temper == 3 ? 3 : 8)) {
+            case 0: return below(72);
+            case 1: return 14 + below(6);
+            case 2: return below(2) == 0 ? below(4) : 71 - below(8);
+            default: return 28 + below(8);
+        }
+    }
+
+    private int weekday() {
+        return below(4) == 0 ? below(7) : below(2);
+    }
+
+    private int request(Model model) {
+        return model.count(0) == 0 ? below(3) : below(model.count(0));
+    }
+
+    private int series(Model model) {
+        return model.count(4) == 0 ? below(3) : below(model.count(4));
+    }
+
+    private int[] arguments(int op, Model m) {
+        switch (op) {
+            case 0: return new int[] {airport(), below(3), 1 + below(6), below(temper == 4 ? 9 : 4)};
+            case 1: return new int[] {airport(), below(3), below(5)};
+            case 2: {
+                int from = below(73);
+                return new int[] {airport(), from, Math.min(72, from + below(8))};
+            }
+            case 3: return new int[] {airport(), below(4) == 0 ? 9999 : below(300)};
+            case 4: return new int[] {below(10), below(10)};
+            case 5: return asking(m);
+            case 6: return new int[] {latest(m), latest(m)};
+            case 8: return new int[] {offered(m)};
+            case 9: return new int[] {series(m), below(20)};
+            case 10: return new int[] {series(m), series(m)};
+            case 11: return new int[] {series(m), below(10)};
+            case 12: return flight(m);
+            case 13: return new int[] {airport(), weekday(), below(20)};
+            case 15: return new int[] {airport(), below(3), weekday(), below(20), below(36), 36 + below(36)};
+            case 16: return new int[] {airport(), below(3), weekday(), below(20)};
+            case 17: return new int[] {airport()};
+            case 18: return new int[] {request(m), below(6)};
+            case 19: return new int[] {request(m)};
+            case 20: return new int[] {series(m), below(12)};
+            case 21: return new int[] {series(m)};
+            case 22: return new int[] {below(m.rights() + 1), below(9)};
+            case 23: return new int[] {below(10), airport()};
+            case 24: return new int[] {below(6)};
+            default: return new int[0];
+        }
+    }
+
+    private int[] asking(Model m) {
+        if (m.rights() > 0 && below(2) == 0) {
+            int right = below(m.rights());
+            int[] a = {m.rightOf(right, 0), m.rightOf(right, 1), m.rightOf(right, 2), m.rightOf(right, 3),
+                m.rightOf(right, 4), m.rightOf(right, 5), m.rightOf(right, 6), m.rightOf(right, 7), right};
+            if (below(2) == 0) {
+                a[4 + below(4)] += below(2);
+            }
+            return a;
+        }
+        int first = below(3) == 0 ? below(20) : below(4);
+        int last = Math.min(19, first + (below(3) == 0 ? below(20) : 4 + below(4)));
+        int carrier = below(temper == 2 ? 3 : 10);
+        return new int[] {carrier, airport(), below(2), weekday(), time(), first, last, below(10), -1};
+    }
+
+    private int latest(Model m) {
+        int all = m.count(0);
+        return all == 0 ? 0 : Math.max(0, all - 1 - below(4));
+    }
+
+    private int offered(Model m) {
+        for (int i = 0; i < 20; i++) {
+            int request = request(m);
+            if (m.count(0) > request && m.requestOf(request, 0) == 2) {
+                return request;
+            }
+        }
+        return request(m);
+    }
+
+    private int[] flight(Model m) {
+        int series = series(m);
+        if (series >= m.count(4)) {
+            return new int[] {series, 0, 0};
+        }
+        int first = m.seriesOf(series, 6);
+        int last = m.seriesOf(series, 7);
+        int shift = below(6) == 0 ? below(7) - 3 : 0;
+        return new int[] {series, first + below(last - first + 1), m.seriesOf(series, 5) + shift};
+    }
+
+    private static String answer(Conference x, int op, int[] a) {
+        try {
+            return String.valueOf(call(x, op, a));
+        } catch (RuntimeException e) {
+            return e.getClass().getSimpleName();
+        }
+    }
+
+    private static int number(boolean answer) {
+        return answer ? 1 : 0;
+    }
+
+    private static int call(Conference x, int op, int[] a) {
+        switch (op) {
+            case 0: return x.declare(a[0], a[1], a[2], a[3]);
+            case 1: return x.revise(a[0], a[1], a[2]);
+            case 2: x.curfew(a[0], a[1], a[2]); return 0;
+            case 3: return x.quota(a[0], a[1]);
+            case 4: return x.merge(a[0], a[1]);
+            case 5: return x.request(a[0], a[1], a[2], a[3], a[4], a[5], a[6], a[7], a[8]);
+            case 6: x.link(a[0], a[1]); return 0;
+            case 7: return x.confer();
+            case 8: return number(x.accept(a[0]));
+            case 9: return x.giveBack(a[0], a[1]);
+            case 10: x.swap(a[0], a[1]); return 0;
+            case 11: return x.lease(a[0], a[1]);
+            case 12: return x.fly(a[0], a[1], a[2]);
+            case 13: return number(x.close(a[0], a[1], a[2]));
+            case 14: return x.end();
+            case 15: return x.load(a[0], a[1], a[2], a[3], a[4], a[5]);
+            case 16: return x.worst(a[0], a[1], a[2], a[3]);
+            case 17: return x.noise(a[0]);
+            case 18: return x.requestOf(a[0], a[1]);
+            case 19: return x.ahead(a[0]);
+            case 20: return x.seriesOf(a[0], a[1]);
+            case 21: return number(x.earns(a[0]));
+            case 22: return x.rightOf(a[0], a[1]);
+            case 23: return number(x.isNew(a[0], a[1]));
+            case 24: return x.count(a[0]);
+            case 25: return x.season();
+            default: return x.rights();
+        }
+    }
+}
