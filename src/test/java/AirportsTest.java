@@ -260,6 +260,10 @@ public final class AirportsTest {
         Check.due("19: a later week", x.worst(1, 0, 3, 9), 2);
         Check.due("19: the ends of the day", x.worst(1, 0, 3, 19), 1);
         Check.due("19: another weekday", x.worst(1, 0, 5, 0), 0);
+        x.giveBack(seriesAtTime(x, 0), 0);
+        Check.due("19: the last window", x.worst(1, 3, 3, 19) + x.worst(1, 0, 3, 19), 2);
+        x.giveBack(seriesAtTime(x, 71), 0);
+        Check.due("19: none", x.worst(1, 3, 3, 19), 0);
         Check.refused(x, "19: airport", Check.INDEX, () -> x.worst(4, 0, 9, 99));
         Check.refused(x, "19: rule", Check.INDEX, () -> x.worst(1, 4, 9, 99));
         Check.refused(x, "19: rule -1", Check.INDEX, () -> x.worst(1, -1, 0, 0));

@@ -10,12 +10,19 @@ public final class ModelTest {
         "isNew", "count", "season", "rights"
     };
     private static final int[] OFTEN = {
-        4, 3, 2, 2, 1, 40, 8, 5, 12, 8, 4, 3, 40, 4, 1, 2, 3, 1, 3, 2, 2, 2, 2, 2, 1, 1, 1
+        1, 3, 1, 2, 1, 12, 2, 2, 6, 5, 3, 3, 12, 4, 0, 2, 3, 1, 3, 2, 2, 2, 2, 2, 1, 1, 1
+    };
+    private static final int[][] MOODS = {
+        {0, 0, 0, 0, 0, 30, 3},
+        {0, 2, 1, 2, 0, 2, 0, 1, 20, 8, 3, 2},
+        {0, 1, 0, 0, 0, 0, 0, 0, 0, 3, 1, 1, 60, 8},
     };
 
     private long seed;
     /** Each run has a temper of its own: how crowded, how often wrong, how often a season ends. */
     private int temper;
+    private int mood = 0;
+    private int left = 20;
 
     public static void main(String[] args) {
         int runs = args.length > 0 ? Integer.parseInt(args[0]) : RUNS;
@@ -63,22 +70,27 @@ public final class ModelTest {
         Check.due("run " + run, 0, 0);
     }
 
+    /** A run goes through moods, so that requests come together, flights come together, and seasons end behind them. */
     private int pick(int call, Model model) {
         if (call < 6) {
             return new int[] {0, 0, 0, 0, 3, 2}[call];
         }
-        if (temper == 1 && below(12) == 0) {
-            return 14;
+        if (left == 0) {
+            mood = (mood + 1) % MOODS.length;
+            left = 1 + below(temper == 1 ? 12 : 36);
+            if (mood == 1) {
+                return 7;
+            }
+            if (mood == 0 && below(temper == 0 ? 3 : 2) == 0) {
+                return 14;
+            }
         }
-        // Seasons in which most series are flown, so that there are rights to claim.
-        if (temper == 2 && model.count(4) > 0 && below(2) == 0) {
-            return 12;
-        }
-        int all = Arrays.stream(OFTEN).sum();
-        int left = below(all);
-        for (int op = 0; op < OFTEN.length; op++) {
-            left -= OFTEN[op];
-            if (left < 0) {
+        left--;
+        int[] often = below(4) == 0 ? OFTEN : MOODS[mood];
+        int rest = below(Arrays.stream(often).sum());
+        for (int op = 0; op < often.length; op++) {
+            rest -= often[op];
+            if (rest < 0) {
                 return op;
             }
         }
@@ -123,7 +135,7 @@ public final class ModelTest {
             case 5: return asking(m);
             case 6: return new int[] {latest(m), latest(m)};
             case 8: return new int[] {offered(m)};
-            case 9: return new int[] {series(m), below(20)};
+            case 9: return returned(m);
             case 10: return new int[] {series(m), series(m)};
             case 11: return new int[] {series(m), below(10)};
             case 12: return flight(m);
@@ -173,15 +185,34 @@ public final class ModelTest {
         return request(m);
     }
 
+    private int[] returned(Model m) {
+        int series = there(m);
+        int first = series < m.count(4) ? m.seriesOf(series, 6) : 0;
+        return new int[] {series, below(3) == 0 ? first : below(20)};
+    }
+
+    /** A series, mostly one that is not gone. */
+    private int there(Model m) {
+        for (int i = 0; i < 5 && m.count(4) > 0; i++) {
+            int series = series(m);
+            if (m.seriesOf(series, 11) == 0) {
+                return series;
+            }
+        }
+        return series(m);
+    }
+
+    /** Mostly the first week without a flight of one of the lower series, so that some earn their rights. */
     private int[] flight(Model m) {
-        int series = series(m);
+        int series = Math.min(there(m), there(m));
         if (series >= m.count(4)) {
             return new int[] {series, 0, 0};
         }
         int first = m.seriesOf(series, 6);
         int last = m.seriesOf(series, 7);
-        int shift = below(6) == 0 ? below(7) - 3 : 0;
-        return new int[] {series, first + below(last - first + 1), m.seriesOf(series, 5) + shift};
+        int shift = below(5) == 0 ? below(9) - 4 : 0;
+        int week = below(5) == 0 ? first + below(last - first + 1) : Math.min(last, first + m.seriesOf(series, 9));
+        return new int[] {series, week, m.seriesOf(series, 5) + shift};
     }
 
     private static String answer(Conference x, int op, int[] a) {

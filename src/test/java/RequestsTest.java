@@ -300,6 +300,10 @@ public final class RequestsTest {
         Check.due("9: no time below 0", y.requestOf(low, 3), 2);
         Check.due("9: 4 less is too far", y.requestOf(high, 3), -1);
         Check.due("9: 4 more is too far", y.requestOf(far, 3), -1);
+        y.curfew(0, 1, 5);
+        int zero = ask(y, 0, 0, 0, 2, 1);
+        y.confer();
+        Check.due("9: the time 0", y.requestOf(zero, 3), 0);
         y.curfew(3, 69, 72);
         int late = ask(y, 0, 3, 0, 71, 1);
         y.confer();
@@ -410,5 +414,11 @@ public final class RequestsTest {
         Check.due("22: one ahead is given", x.ahead(3), 1);
         x.accept(1);
         Check.due("22: one ahead waits without an offer", x.ahead(3), 1);
+        x.end();
+        for (int i = 0; i < 4; i++) {
+            ask(x, i, 0, 0, 30, 5 + i);
+        }
+        x.confer();
+        Check.due("22: nobody waits from a season ahead", x.ahead(2) * 100 + x.ahead(1) * 10 + x.ahead(0), 12);
     }
 }

@@ -16,6 +16,7 @@ public final class SeriesTest {
         promise24();
         promises25And26();
         promise27();
+        rightsOfOthers();
         promise28();
         Check.finish();
     }
@@ -288,6 +289,21 @@ public final class SeriesTest {
         Check.due("16: of its holder", y.rightOf(0, 0), 1);
         Check.due("16: its last week", y.rightOf(0, 6), 4);
         offersBecomeRights();
+        seriesBeginAnew();
+    }
+
+    private static void seriesBeginAnew() {
+        SlotConference x = one(0, 9);
+        for (int week = 0; week < 3; week++) {
+            x.fly(0, week, 71);
+        }
+        x.end();
+        x.request(3, 2, 0, 5, 40, 1, 6, 2, -1);
+        x.confer();
+        int[] want = {3, 3, 2, 0, 5, 40, 1, 6, 0, 0, 0, 0};
+        for (int what = 0; what <= 11; what++) {
+            Check.due("16: the series 0 anew, " + what, x.seriesOf(0, what), want[what]);
+        }
     }
 
     private static void offersBecomeRights() {
@@ -417,6 +433,20 @@ public final class SeriesTest {
         Check.due("27: a swap moves one, and brings one", y.isNew(0, 0), false);
         y.fly(0, 0, 71);
         Check.due("27: not gone by one flight", y.isNew(0, 0), false);
+    }
+
+    private static void rightsOfOthers() {
+        SlotConference x = RequestsTest.withRight();
+        for (int i = 0; i < 4; i++) {
+            x.request(1 + i / 2, 1 - i / 2, 0, i, 30, 0, 9, 0, -1);
+        }
+        x.confer();
+        Check.due("27: two series, and a right of another airport", x.isNew(1, 1), true);
+        Check.due("27: two series, and a right of another carrier", x.isNew(2, 0), true);
+        x.request(1, 0, 0, 0, 30, 0, 9, 0, -1);
+        x.request(1, 0, 0, 1, 30, 0, 9, 0, -1);
+        x.confer();
+        Check.due("27: two series and a right that nobody claims", x.isNew(1, 0), false);
     }
 
     private static void promise28() {
