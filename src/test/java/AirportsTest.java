@@ -19,12 +19,12 @@ public final class AirportsTest {
         Check.finish();
     }
 
-    static int ask(SlotConference x, int carrier, int airport, int kind, int weekday, int time, int weeks) {
+    static int ask(Real x, int carrier, int airport, int kind, int weekday, int time, int weeks) {
         return x.request(carrier, airport, kind, weekday, time, 0, weeks - 1, 0, -1);
     }
 
     private static void promise1() {
-        SlotConference x = new SlotConference();
+        Real x = new Real();
         Check.due("1: season", x.season(), 0);
         Check.due("1: rights", x.rights(), 0);
         for (int what = 0; what <= 5; what++) {
@@ -45,12 +45,12 @@ public final class AirportsTest {
             Check.due("1: no curfew at " + time, x.requestOf(request, 5), 0);
         }
         Check.due("1: each alone", x.merge(3, 4), 2);
-        SlotConference y = new SlotConference();
+        Real y = new Real();
         Check.due("1: objects do not share", y.count(0), 0);
     }
 
     private static void promise2() {
-        SlotConference x = new SlotConference();
+        Real x = new Real();
         Check.due("2: first", x.declare(0, 0, 1, 0), 0);
         Check.due("2: other airport", x.declare(3, 2, 6, 20), 0);
         int[] airports = {-1, 4, MIN, MAX};
@@ -70,7 +70,7 @@ public final class AirportsTest {
     }
 
     private static void promise3() {
-        SlotConference x = new SlotConference();
+        Real x = new Real();
         x.declare(1, 2, 2, 7);
         x.declare(1, 2, 2, 9);
         Check.due("3: was", x.revise(1, 0, 0), 7);
@@ -93,7 +93,7 @@ public final class AirportsTest {
     }
 
     private static void promise4() {
-        SlotConference x = new SlotConference();
+        Real x = new Real();
         int request = ask(x, 0, 2, 1, 0, 30, 5);
         int[][] bars = {{30, 31, 1}, {29, 30, 0}, {31, 72, 0}, {0, 72, 1}, {30, 30, 0}, {0, 31, 1}, {72, 72, 0}, {0, 0, 0}};
         for (int[] b : bars) {
@@ -114,7 +114,7 @@ public final class AirportsTest {
     }
 
     private static void promise5() {
-        SlotConference x = new SlotConference();
+        Real x = new Real();
         Check.due("5: at first", x.quota(0, 100), 9999);
         Check.due("5: was", x.quota(0, 0), 100);
         Check.due("5: was 0", x.quota(0, 9999), 0);
@@ -127,7 +127,7 @@ public final class AirportsTest {
     }
 
     private static void quotaInFits() {
-        SlotConference x = new SlotConference();
+        Real x = new Real();
         int night = x.request(0, 0, 0, 0, 17, 0, 9, 3, -1);
         int late = x.request(0, 0, 0, 0, 66, 0, 9, 3, -1);
         int day = x.request(0, 0, 0, 0, 18, 0, 9, 9, -1);
@@ -157,7 +157,7 @@ public final class AirportsTest {
     }
 
     private static void promise6() {
-        SlotConference x = new SlotConference();
+        Real x = new Real();
         Check.due("6: two", x.merge(0, 1), 2);
         Check.due("6: two others", x.merge(3, 2), 2);
         Check.due("6: four", x.merge(1, 3), 4);
@@ -169,7 +169,7 @@ public final class AirportsTest {
         for (int carrier = 4; carrier < 10; carrier++) {
             Check.due("6: one more", x.merge(carrier, 0), carrier + 1);
         }
-        SlotConference y = new SlotConference();
+        Real y = new Real();
         for (int i = 0; i < 3; i++) {
             ask(y, i, 0, 0, i, 30, 5);
         }
@@ -185,7 +185,7 @@ public final class AirportsTest {
     }
 
     private static void promise17() {
-        SlotConference x = new SlotConference();
+        Real x = new Real();
         for (int season = 0; season < 20; season++) {
             Check.due("17: season", x.season(), season);
             x.end();
@@ -194,8 +194,8 @@ public final class AirportsTest {
         Check.refused(x, "16: the season 20", Check.STATE, x::end);
     }
 
-    private static SlotConference loaded() {
-        SlotConference x = new SlotConference();
+    private static Real loaded() {
+        Real x = new Real();
         ask(x, 0, 1, 0, 3, 20, 10);
         ask(x, 1, 1, 1, 3, 22, 8);
         ask(x, 2, 1, 0, 3, 25, 12);
@@ -208,7 +208,7 @@ public final class AirportsTest {
     }
 
     private static void promise18() {
-        SlotConference x = loaded();
+        Real x = loaded();
         Check.due("18: arrivals", x.load(1, 0, 3, 0, 0, 71), 2);
         Check.due("18: departures", x.load(1, 1, 3, 0, 0, 71), 3);
         Check.due("18: either", x.load(1, 2, 3, 0, 0, 71), 5);
@@ -236,7 +236,7 @@ public final class AirportsTest {
         }
     }
 
-    static int seriesAtTime(SlotConference x, int time) {
+    static int seriesAtTime(Real x, int time) {
         for (int i = 0; i < x.count(4); i++) {
             if (x.seriesOf(i, 5) == time) {
                 return i;
@@ -246,7 +246,7 @@ public final class AirportsTest {
     }
 
     private static void promise19() {
-        SlotConference x = loaded();
+        Real x = loaded();
         x.declare(1, 2, 6, 20);
         x.declare(1, 0, 6, 20);
         x.declare(1, 0, 5, 20);
@@ -274,7 +274,7 @@ public final class AirportsTest {
     }
 
     private static void promise20() {
-        SlotConference x = new SlotConference();
+        Real x = new Real();
         x.request(0, 0, 0, 0, 17, 2, 6, 9, -1);
         x.request(1, 0, 1, 1, 66, 0, 19, 1, -1);
         x.request(2, 0, 0, 2, 18, 0, 19, 9, -1);
@@ -295,7 +295,7 @@ public final class AirportsTest {
 
     /** Terms: windows roll and overlap, and only those with the new time count. */
     private static void windows() {
-        SlotConference x = new SlotConference();
+        Real x = new Real();
         x.declare(0, 2, 3, 2);
         ask(x, 0, 0, 0, 0, 30, 10);
         ask(x, 1, 0, 1, 0, 32, 10);
@@ -317,7 +317,7 @@ public final class AirportsTest {
         Check.due("a departure under it", x.requestOf(departure, 5), 0);
         x.revise(0, 0, 0);
         Check.due("no slots at all, the lowest rule", x.requestOf(arrival, 5), 10);
-        SlotConference y = new SlotConference();
+        Real y = new Real();
         ask(y, 0, 0, 0, 0, 40, 5);
         ask(y, 1, 0, 0, 0, 40, 5);
         y.confer();
@@ -334,7 +334,7 @@ public final class AirportsTest {
     }
 
     private static void ends() {
-        SlotConference x = new SlotConference();
+        Real x = new Real();
         x.declare(0, 2, 6, 1);
         ask(x, 0, 0, 0, 0, 0, 5);
         ask(x, 1, 0, 0, 0, 71, 5);

@@ -1,3 +1,4 @@
+import java.util.List;
 import java.util.function.BooleanSupplier;
 import java.util.function.IntSupplier;
 
@@ -27,14 +28,13 @@ final class Check {
     static void due(String what, String got, String want) {
         checks++;
         if (!got.equals(want)) {
-            tell(what + " answered\n" + got + "\ndue is\n" + want);
+            tell(what + " answered " + got + ", due is " + want);
         }
     }
 
-    /** The call is to throw just that class, and to change nothing that can be asked of the object. */
-    static void refused(SlotConference x, String what, Class<? extends Exception> want, IntSupplier call) {
+    /** The call is to throw just that class, not one below it, and to change nothing. */
+    static void refused(Real x, String what, Class<? extends Exception> want, IntSupplier call) {
         checks++;
-        String before = All.of(x);
         try {
             int got = call.getAsInt();
             tell(what + " answered " + got + ", due is " + want.getSimpleName());
@@ -42,19 +42,41 @@ final class Check {
             if (e.getClass() != want) {
                 tell(what + " threw " + e + ", due is " + want.getSimpleName());
             }
+            nothingIsChanged(x.told(), x.latest(), what);
         }
-        due("all answers behind " + what, All.of(x), before);
     }
 
-    static void refusedBoolean(SlotConference x, String what, Class<? extends Exception> want, BooleanSupplier call) {
+    static void refusedBoolean(Real x, String what, Class<? extends Exception> want, BooleanSupplier call) {
         refused(x, what, want, () -> call.getAsBoolean() ? 1 : 0);
     }
 
-    static void refusedVoid(SlotConference x, String what, Class<? extends Exception> want, Runnable call) {
+    static void refusedVoid(Real x, String what, Class<? extends Exception> want, Runnable call) {
         refused(x, what, want, () -> {
             call.run();
             return 0;
         });
+    }
+
+    /** Asks twins, because one object may not be called often enough to be asked for everything. */
+    private static void nothingIsChanged(List<Step> told, Step refused, String what) {
+        if (told.size() + 4 > Real.MOST_CALLS) {
+            tell("no twin can be asked anything behind " + what);
+            return;
+        }
+        for (List<Step> group : All.groups(Real.behind(told))) {
+            int asked = 0;
+            while (asked < group.size()) {
+                Real plain = Real.behind(told);
+                Real tried = Real.behind(told);
+                Step.answer(refused, tried);
+                // A question may make two calls, the refused one is one more.
+                while (asked < group.size() && tried.callsLeft() > 2) {
+                    String before = Step.answer(group.get(asked), plain);
+                    due("question " + asked + " behind " + what, Step.answer(group.get(asked), tried), before);
+                    asked++;
+                }
+            }
+        }
     }
 
     static void tell(String text) {

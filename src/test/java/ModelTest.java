@@ -1,9 +1,9 @@
 import java.util.Arrays;
+import java.util.List;
 
 /** Long runs of calls, made by a fixed row of numbers, on the class and on the model: every answer is to be the same. */
 public final class ModelTest {
     private static final int RUNS = 150;
-    private static final int CALLS = 512;
     private static final String[] NAMES = {
         "declare", "revise", "curfew", "quota", "merge", "request", "link", "confer", "accept", "giveBack", "swap",
         "lease", "fly", "close", "end", "load", "worst", "noise", "requestOf", "ahead", "seriesOf", "earns", "rightOf",
@@ -40,34 +40,45 @@ public final class ModelTest {
     private void compare(int run) {
         seed = 977L * run + 13;
         temper = run % 5;
-        Real real = new Real(new SlotConference());
+        Real real = new Real();
         Model model = new Model();
-        StringBuilder told = new StringBuilder();
-        for (int call = 0; call < CALLS; call++) {
+        for (int call = 0; call < Real.MOST_CALLS; call++) {
             int op = pick(call, model);
             int[] a = arguments(op, model);
             if (below(25) == 0 && a.length > 0) {
                 int[] odd = {-1, 60, Integer.MIN_VALUE, Integer.MAX_VALUE, 72, 20, 10, 7, 6, 4, 3, 2};
                 a[below(a.length)] = odd[below(odd.length)];
             }
-            String line = NAMES[op] + Arrays.toString(a);
-            String got = answer(real, op, a);
-            String want = answer(model, op, a);
-            told.append(line).append(" = ").append(want).append('\n');
-            if (!got.equals(want)) {
-                Check.tell("run " + run + ", call " + call + ": " + line + " answered " + got + ", the model " + want);
+            String line = "run " + run + ", call " + call + ": " + NAMES[op] + Arrays.toString(a);
+            if (!alike(line, c -> call(c, op, a), real, model)) {
                 return;
             }
-            if (call % 8 == 7 || op == 7 || op == 9) {
-                String all = All.of(real);
-                String due = All.of(model);
-                Check.due("run " + run + ", call " + call + " " + line, all, due);
-                if (!all.equals(due)) {
-                    return;
+            if (call % 16 == 15 && !alikeInAll(line, real.told(), model)) {
+                return;
+            }
+        }
+    }
+
+    private static boolean alike(String line, Step step, Real real, Model model) {
+        String want = Step.answer(step, model);
+        String got = Step.answer(step, real);
+        Check.due(line, got, want);
+        return got.equals(want);
+    }
+
+    /** Asks objects that are made anew, because one alone may not be called often enough; late ones but for a part. */
+    private boolean alikeInAll(String line, List<Step> told, Model model) {
+        List<Step> questions = All.questions(model);
+        int asked = told.size() > 200 ? below(questions.size()) : 0;
+        for (int objects = 0; objects < 8 && asked < questions.size(); objects++) {
+            Real twin = Real.behind(told);
+            for (; asked < questions.size() && twin.callsLeft() > 0; asked++) {
+                if (!alike("question " + asked + " behind " + line, questions.get(asked), twin, model)) {
+                    return false;
                 }
             }
         }
-        Check.due("run " + run, 0, 0);
+        return true;
     }
 
     /** A run goes through moods, so that requests come together, flights come together, and seasons end behind them. */
@@ -213,14 +224,6 @@ public final class ModelTest {
         int shift = below(5) == 0 ? below(9) - 4 : 0;
         int week = below(5) == 0 ? first + below(last - first + 1) : Math.min(last, first + m.seriesOf(series, 9));
         return new int[] {series, week, m.seriesOf(series, 5) + shift};
-    }
-
-    private static String answer(Conference x, int op, int[] a) {
-        try {
-            return String.valueOf(call(x, op, a));
-        } catch (RuntimeException e) {
-            return e.getClass().getSimpleName();
-        }
     }
 
     private static int number(boolean answer) {

@@ -18,13 +18,13 @@ public final class RequestsTest {
         Check.finish();
     }
 
-    static int ask(SlotConference x, int carrier, int airport, int weekday, int time, int weeks) {
+    static int ask(Real x, int carrier, int airport, int weekday, int time, int weeks) {
         return x.request(carrier, airport, 0, weekday, time, 0, weeks - 1, 0, -1);
     }
 
     /** A right of carrier 1 at airport 0 for arrivals on weekday 2 at 30, in the weeks 3 to 12, with a noise of 4. */
-    static SlotConference withRight() {
-        SlotConference x = new SlotConference();
+    static Real withRight() {
+        Real x = new Real();
         x.request(1, 0, 0, 2, 30, 3, 12, 4, -1);
         x.confer();
         for (int week = 3; week < 11; week++) {
@@ -35,7 +35,7 @@ public final class RequestsTest {
     }
 
     private static void promise7() {
-        SlotConference x = new SlotConference();
+        Real x = new Real();
         int[][] nobody = {{-1, 0, -1}, {10, 0, -1}, {0, -1, -1}, {0, 4, -1}, {0, 0, 0}, {0, 0, -2}, {MIN, MAX, MAX}, {0, 0, MIN}};
         for (int[] n : nobody) {
             Check.refused(x, "7: nobody", Check.INDEX, () -> x.request(n[0], n[1], 9, 9, 99, 9, 0, 99, n[2]));
@@ -61,7 +61,7 @@ public final class RequestsTest {
     }
 
     private static void claims() {
-        SlotConference x = withRight();
+        Real x = withRight();
         Check.due("7: the right", x.rights(), 1);
         int[][] wrong = {{0, 0, 0, 2}, {1, 1, 0, 2}, {1, 0, 1, 2}, {1, 0, 0, 3}};
         for (int[] w : wrong) {
@@ -79,14 +79,14 @@ public final class RequestsTest {
         Check.due("7: new then", x.requestOf(1, 1), SlotConference.NEW);
         int[][] changed = {{31, 3, 12, 4}, {30, 2, 12, 4}, {30, 3, 11, 4}, {30, 3, 12, 5}};
         for (int[] c : changed) {
-            SlotConference y = withRight();
+            Real y = withRight();
             y.request(1, 0, 0, 2, c[0], c[1], c[2], c[3], 0);
             Check.due("7: changed", y.requestOf(0, 1), SlotConference.CHANGED);
         }
     }
 
     private static void promise8() {
-        SlotConference x = new SlotConference();
+        Real x = new Real();
         for (int i = 0; i < 5; i++) {
             ask(x, i, i % 4, 0, 30, 5);
         }
@@ -112,7 +112,7 @@ public final class RequestsTest {
     }
 
     private static void promise9() {
-        SlotConference x = new SlotConference();
+        Real x = new Real();
         Check.refused(x, "9: none", Check.STATE, x::confer);
         x.declare(0, 2, 1, 1);
         int few = ask(x, 0, 0, 0, 30, 6);
@@ -133,7 +133,7 @@ public final class RequestsTest {
     }
 
     private static void weeksCount() {
-        SlotConference x = new SlotConference();
+        Real x = new Real();
         x.declare(0, 2, 6, 1);
         x.request(0, 0, 0, 0, 30, 0, 6, 0, -1);
         x.request(1, 0, 0, 0, 30, 4, 11, 0, -1);
@@ -145,7 +145,7 @@ public final class RequestsTest {
 
     /** Carrier 9 has three series, so its requests are OTHER; each request is for a day of its own. */
     private static void sortsInTurn() {
-        SlotConference x = new SlotConference();
+        Real x = new Real();
         for (int i = 0; i < 3; i++) {
             ask(x, 9, 0, i, 60, 5);
         }
@@ -164,7 +164,7 @@ public final class RequestsTest {
             Check.due("9: in turn, place " + i, x.seriesOf(3 + i, 8), order[i]);
         }
         Check.due("9: as it was sorted", x.requestOf(6, 1), SlotConference.NEW);
-        SlotConference y = new SlotConference();
+        Real y = new Real();
         for (int i = 0; i < 3; i++) {
             ask(y, 9, 0, i, 60, 5);
         }
@@ -181,13 +181,13 @@ public final class RequestsTest {
     }
 
     private static void sortsAsItBegins() {
-        SlotConference x = withRight();
+        Real x = withRight();
         int fresh = ask(x, 5, 0, 2, 10, 20);
         int changed = x.request(1, 0, 0, 2, 31, 3, 3, 4, 0);
         Check.due("9: two", x.confer(), 2);
         Check.due("9: a changed one ahead of a new one with more weeks", x.requestOf(changed, 2), 0);
         Check.due("9: the new one then", x.requestOf(fresh, 2), 1);
-        SlotConference y = new SlotConference();
+        Real y = new Real();
         for (int i = 0; i < 4; i++) {
             ask(y, 0, 0, i, 30, 5);
         }
@@ -205,7 +205,7 @@ public final class RequestsTest {
     }
 
     private static void historicFirst() {
-        SlotConference x = new SlotConference();
+        Real x = new Real();
         for (int i = 0; i < 3; i++) {
             x.request(i, 0, 0, 0, 30 + i, 0, 4, 0, -1);
         }
@@ -226,7 +226,7 @@ public final class RequestsTest {
     }
 
     private static void pairs() {
-        SlotConference x = new SlotConference();
+        Real x = new Real();
         x.declare(1, 2, 1, 1);
         int a = ask(x, 0, 0, 0, 30, 9);
         int b = ask(x, 0, 1, 0, 30, 1);
@@ -255,7 +255,7 @@ public final class RequestsTest {
     }
 
     private static void sameAirport() {
-        SlotConference x = new SlotConference();
+        Real x = new Real();
         x.declare(0, 2, 2, 1);
         int a = ask(x, 0, 0, 0, 30, 5);
         int b = ask(x, 0, 0, 0, 31, 5);
@@ -263,7 +263,7 @@ public final class RequestsTest {
         Check.due("9: the other one with this one given", x.confer(), 0);
         Check.due("9: each alone fits", x.requestOf(a, 5) + x.requestOf(b, 5), 0);
         Check.due("9: right behind", x.ahead(b), 1);
-        SlotConference y = new SlotConference();
+        Real y = new Real();
         y.quota(0, 9);
         y.request(0, 0, 0, 0, 3, 0, 0, 5, -1);
         y.request(0, 0, 1, 3, 3, 0, 0, 5, -1);
@@ -278,7 +278,7 @@ public final class RequestsTest {
     private static void offers() {
         int[] tried = {29, 31, 28, 32, 27, 33};
         for (int open = 0; open <= 6; open++) {
-            SlotConference x = new SlotConference();
+            Real x = new Real();
             x.declare(0, 2, 1, 1);
             ask(x, 0, 0, 0, 30, 20);
             for (int i = 0; i < open; i++) {
@@ -289,7 +289,7 @@ public final class RequestsTest {
             Check.due("9: offered", x.requestOf(open + 1, 3), open < 6 ? tried[open] : -1);
             Check.due("9: its state", x.requestOf(open + 1, 0), open < 6 ? SlotConference.OFFERED : SlotConference.WAITING);
         }
-        SlotConference y = new SlotConference();
+        Real y = new Real();
         y.curfew(0, 0, 2);
         y.curfew(1, 68, 72);
         y.curfew(2, 0, 4);
@@ -311,7 +311,7 @@ public final class RequestsTest {
     }
 
     private static void promise10() {
-        SlotConference x = new SlotConference();
+        Real x = new Real();
         x.declare(0, 2, 1, 1);
         for (int i = 0; i < 3; i++) {
             ask(x, i, 0, 0, 30, 5);
@@ -341,7 +341,7 @@ public final class RequestsTest {
     }
 
     private static void promise21() {
-        SlotConference x = new SlotConference();
+        Real x = new Real();
         x.declare(0, 2, 1, 1);
         ask(x, 0, 0, 0, 30, 5);
         ask(x, 1, 0, 0, 30, 5);
@@ -374,7 +374,7 @@ public final class RequestsTest {
     }
 
     private static void promise22() {
-        SlotConference x = new SlotConference();
+        Real x = new Real();
         x.curfew(0, 25, 35);
         x.curfew(1, 25, 35);
         int[] airports = {0, 1, 0, 0, 1};
@@ -404,7 +404,7 @@ public final class RequestsTest {
     }
 
     private static void mixedQueue() {
-        SlotConference x = new SlotConference();
+        Real x = new Real();
         x.declare(0, 2, 1, 1);
         for (int i = 0; i < 4; i++) {
             ask(x, i, 0, 0, 30, 5);

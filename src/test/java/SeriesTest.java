@@ -22,15 +22,15 @@ public final class SeriesTest {
     }
 
     /** One series of carrier 1 at airport 0, a departure on weekday 2 at 30, from first to last. */
-    private static SlotConference one(int first, int last) {
-        SlotConference x = new SlotConference();
+    private static Real one(int first, int last) {
+        Real x = new Real();
         x.request(1, 0, 1, 2, 30, first, last, 4, -1);
         x.confer();
         return x;
     }
 
     private static void promise11() {
-        SlotConference x = one(3, 12);
+        Real x = one(3, 12);
         Check.refused(x, "11: series", Check.INDEX, () -> x.giveBack(1, 99));
         Check.refused(x, "11: series -1", Check.INDEX, () -> x.giveBack(-1, 0));
         Check.refused(x, "11: week", Check.ARGUMENT, () -> x.giveBack(0, 20));
@@ -55,7 +55,7 @@ public final class SeriesTest {
         Check.due("11: its weeks as they were", x.seriesOf(0, 6) * 100 + x.seriesOf(0, 7), 303);
         Check.refused(x, "11: gone already", Check.STATE, () -> x.giveBack(0, 3));
         Check.refused(x, "11: gone, out of range", Check.ARGUMENT, () -> x.giveBack(0, 20));
-        SlotConference y = one(3, 12);
+        Real y = one(3, 12);
         y.fly(0, 7, 30);
         Check.due("11: from a week ahead of it", y.giveBack(0, 0), 0);
         Check.due("11: its weeks stay", y.seriesOf(0, 6) * 100 + y.seriesOf(0, 7), 312);
@@ -64,7 +64,7 @@ public final class SeriesTest {
     }
 
     private static void whoIsServed() {
-        SlotConference x = new SlotConference();
+        Real x = new Real();
         x.declare(0, 2, 6, 1);
         x.request(0, 0, 0, 0, 30, 0, 19, 0, -1);
         x.request(1, 0, 0, 0, 30, 10, 18, 0, -1);
@@ -85,7 +85,7 @@ public final class SeriesTest {
         Check.due("11: they wait", x.requestOf(4, 0), SlotConference.WAITING);
         Check.due("11: weeks 5 to 9 free", x.giveBack(0, 3), 1);
         Check.due("11: it is given", x.requestOf(3, 2), 3);
-        SlotConference y = new SlotConference();
+        Real y = new Real();
         y.declare(0, 2, 1, 1);
         y.declare(1, 2, 1, 1);
         for (int i = 0; i < 6; i++) {
@@ -100,8 +100,8 @@ public final class SeriesTest {
         Check.due("11: none of another airport", y.requestOf(4, 0), SlotConference.OFFERED);
     }
 
-    private static SlotConference three() {
-        SlotConference x = new SlotConference();
+    private static Real three() {
+        Real x = new Real();
         x.request(0, 0, 0, 0, 30, 0, 9, 0, -1);
         x.request(1, 0, 1, 1, 40, 0, 7, 0, -1);
         x.request(2, 1, 0, 0, 30, 0, 5, 0, -1);
@@ -110,7 +110,7 @@ public final class SeriesTest {
     }
 
     private static void promise12() {
-        SlotConference x = three();
+        Real x = three();
         Check.refusedVoid(x, "12: series", Check.INDEX, () -> x.swap(3, 3));
         Check.refusedVoid(x, "12: other", Check.INDEX, () -> x.swap(0, -1));
         Check.refusedVoid(x, "12: the same", Check.ARGUMENT, () -> x.swap(0, 0));
@@ -128,7 +128,7 @@ public final class SeriesTest {
     }
 
     private static void promise13() {
-        SlotConference x = three();
+        Real x = three();
         Check.refused(x, "13: series", Check.INDEX, () -> x.lease(3, 0));
         Check.refused(x, "13: series -1", Check.INDEX, () -> x.lease(-1, 0));
         Check.refused(x, "13: carrier", Check.INDEX, () -> x.lease(0, 10));
@@ -144,7 +144,7 @@ public final class SeriesTest {
     }
 
     private static void promise14() {
-        SlotConference x = one(3, 12);
+        Real x = one(3, 12);
         Check.refused(x, "14: series", Check.INDEX, () -> x.fly(1, 99, 99));
         Check.refused(x, "14: series -1", Check.INDEX, () -> x.fly(-1, 3, 30));
         int[][] wrong = {{2, 30}, {13, 30}, {3, -1}, {3, 72}, {MIN, MAX}};
@@ -166,7 +166,7 @@ public final class SeriesTest {
         Check.due("14: no slots", x.load(0, 2, 2, 5, 0, 71), 0);
         Check.refused(x, "14: gone", Check.STATE, () -> x.fly(0, 8, 30));
         Check.refused(x, "14: gone, not its week", Check.ARGUMENT, () -> x.fly(0, 13, 30));
-        SlotConference y = new SlotConference();
+        Real y = new Real();
         y.declare(0, 2, 1, 1);
         y.request(0, 0, 0, 0, 30, 0, 9, 0, -1);
         y.request(1, 0, 0, 0, 30, 0, 9, 0, -1);
@@ -182,7 +182,7 @@ public final class SeriesTest {
     }
 
     private static void promise15() {
-        SlotConference x = one(3, 12);
+        Real x = one(3, 12);
         Check.refusedBoolean(x, "15: airport", Check.INDEX, () -> x.close(4, 9, 99));
         Check.refusedBoolean(x, "15: airport -1", Check.INDEX, () -> x.close(-1, 0, 0));
         int[][] wrong = {{-1, 0}, {7, 0}, {0, -1}, {0, 20}, {MIN, MAX}};
@@ -201,7 +201,7 @@ public final class SeriesTest {
         Check.due("15: given back", x.seriesOf(0, 9), 0);
         x.close(0, 2, 3);
         Check.due("15: one week", x.seriesOf(0, 9), 1);
-        SlotConference y = one(3, 12);
+        Real y = one(3, 12);
         y.giveBack(0, 0);
         y.close(0, 2, 8);
         Check.due("15: behind its going, too", y.seriesOf(0, 9), 1);
@@ -209,7 +209,7 @@ public final class SeriesTest {
         Check.due("15: open again", y.close(0, 2, 8), true);
         Check.due("15: the ends", y.close(3, 6, 19), true);
         Check.due("15: closed then", y.close(3, 6, 19), false);
-        SlotConference z = new SlotConference();
+        Real z = new Real();
         z.close(0, 0, 0);
         z.request(0, 0, 0, 0, 30, 0, 0, 0, -1);
         Check.due("15: a closed day may be given", z.confer(), 1);
@@ -217,7 +217,7 @@ public final class SeriesTest {
     }
 
     private static void promise16() {
-        SlotConference x = new SlotConference();
+        Real x = new Real();
         int[] lasts = {4, 4, 3, 9, 9, 19, 19, 5};
         int[] flights = {4, 3, 4, 8, 7, 16, 15, 5};
         for (int i = 0; i < lasts.length; i++) {
@@ -247,7 +247,7 @@ public final class SeriesTest {
     }
 
     private static void whatStaysBehindASeason() {
-        SlotConference x = new SlotConference();
+        Real x = new Real();
         x.declare(0, 2, 6, 1);
         x.curfew(1, 10, 20);
         x.quota(2, 3);
@@ -275,7 +275,7 @@ public final class SeriesTest {
         Check.due("16: quotas stay", x.quota(2, 0), 3);
         Check.due("16: flights are gone", x.fly(0, 0, 30), 0);
         Check.due("16: uses", x.seriesOf(0, 9), 1);
-        SlotConference y = new SlotConference();
+        Real y = new Real();
         y.request(0, 0, 0, 0, 30, 0, 19, 0, -1);
         y.request(1, 0, 0, 0, 40, 0, 5, 0, -1);
         y.confer();
@@ -293,7 +293,7 @@ public final class SeriesTest {
     }
 
     private static void seriesBeginAnew() {
-        SlotConference x = one(0, 9);
+        Real x = one(0, 9);
         for (int week = 0; week < 3; week++) {
             x.fly(0, week, 71);
         }
@@ -307,7 +307,7 @@ public final class SeriesTest {
     }
 
     private static void offersBecomeRights() {
-        SlotConference x = new SlotConference();
+        Real x = new Real();
         x.curfew(0, 30, 31);
         x.request(0, 0, 0, 0, 30, 0, 4, 7, -1);
         x.confer();
@@ -321,7 +321,7 @@ public final class SeriesTest {
     }
 
     private static void promise23() {
-        SlotConference x = one(3, 12);
+        Real x = one(3, 12);
         int[] want = {1, 1, 0, 1, 2, 30, 3, 12, 0, 0, 0, 0};
         for (int what = 0; what <= 11; what++) {
             Check.due("23: " + what, x.seriesOf(0, what), want[what]);
@@ -346,7 +346,7 @@ public final class SeriesTest {
     }
 
     private static void promise24() {
-        SlotConference x = one(3, 12);
+        Real x = one(3, 12);
         for (int week = 3; week < 10; week++) {
             x.fly(0, week, 30);
         }
@@ -361,7 +361,7 @@ public final class SeriesTest {
         Check.due("24: 5 of 5", x.earns(0), true);
         x.giveBack(0, 7);
         Check.due("24: 4 weeks are too few", x.earns(0), false);
-        SlotConference y = one(3, 12);
+        Real y = one(3, 12);
         for (int week = 3; week < 13; week++) {
             y.fly(0, week, 30);
         }
@@ -374,7 +374,7 @@ public final class SeriesTest {
     }
 
     private static void promises25And26() {
-        SlotConference x = RequestsTest.withRight();
+        Real x = RequestsTest.withRight();
         Check.due("25: one", x.rights(), 1);
         int[] want = {1, 0, 0, 2, 30, 3, 12, 4, -1};
         for (int what = 0; what <= 8; what++) {
@@ -398,7 +398,7 @@ public final class SeriesTest {
     }
 
     private static void promise27() {
-        SlotConference x = RequestsTest.withRight();
+        Real x = RequestsTest.withRight();
         x.request(1, 0, 0, 2, 30, 3, 12, 4, 0);
         x.confer();
         Check.due("27: a right, claimed, and a series", x.isNew(1, 0), true);
@@ -423,7 +423,7 @@ public final class SeriesTest {
         Check.refusedBoolean(x, "27: carrier -1", Check.INDEX, () -> x.isNew(-1, 0));
         Check.refusedBoolean(x, "27: airport", Check.INDEX, () -> x.isNew(0, 4));
         Check.refusedBoolean(x, "27: airport -1", Check.INDEX, () -> x.isNew(0, -1));
-        SlotConference y = new SlotConference();
+        Real y = new Real();
         for (int i = 0; i < 4; i++) {
             y.request(i == 3 ? 1 : 0, 0, 0, i, 30, 0, 0, 0, -1);
         }
@@ -436,7 +436,7 @@ public final class SeriesTest {
     }
 
     private static void rightsOfOthers() {
-        SlotConference x = RequestsTest.withRight();
+        Real x = RequestsTest.withRight();
         for (int i = 0; i < 4; i++) {
             x.request(1 + i / 2, 1 - i / 2, 0, i, 30, 0, 9, 0, -1);
         }
@@ -450,7 +450,7 @@ public final class SeriesTest {
     }
 
     private static void promise28() {
-        SlotConference x = new SlotConference();
+        Real x = new Real();
         x.declare(0, 2, 1, 1);
         x.curfew(1, 20, 40);
         x.request(0, 0, 0, 0, 30, 0, 9, 0, -1);
