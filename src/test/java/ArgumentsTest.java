@@ -83,7 +83,8 @@ public final class ArgumentsTest {
         revise.index(0, 0, 3, 1, 2, 4);
         revise.index(1, 0, 2, 1, 1, 4);
         revise.range(2, 0, 20, 1, 1, 4);
-        ArgumentsTest curfew = new ArgumentsTest("curfew", Scenes::withRules, (x, a) -> {
+        // One is set already, so that half of a refused one would be seen.
+        ArgumentsTest curfew = new ArgumentsTest("curfew", ArgumentsTest::withCurfew, (x, a) -> {
             x.curfew(a[0], a[1], a[2]);
             return 0;
         });
@@ -100,6 +101,12 @@ public final class ArgumentsTest {
         ArgumentsTest merge = new ArgumentsTest("merge", Scenes::withRules, (x, a) -> x.merge(a[0], a[1]));
         merge.index(0, 0, 9, 4, 5);
         merge.index(1, 0, 9, 4, 5);
+    }
+
+    private static Real withCurfew() {
+        Real x = Scenes.withRules();
+        x.curfew(1, 5, 50);
+        return x;
     }
 
     private static void requests() {

@@ -6,6 +6,7 @@ public final class TermsAirportsTest {
         weeksOfSeries();
         lengthsOfWindows();
         windowsOfOneDay();
+        firstAndLastWindow();
         kindsOfRules();
         numbersOfRules();
         mostSlots();
@@ -121,6 +122,41 @@ public final class TermsAirportsTest {
                 Check.due("one day: from its end " + far, reason(x, 0, 3, 71 - far, 19, 19), due);
             }
         }
+    }
+
+    /** The first window of a day and the last one count, with one slot at their very end. */
+    private static void firstAndLastWindow() {
+        for (int length = 1; length <= 6; length++) {
+            int[] times = {0, 71};
+            for (int time : times) {
+                Real x = new Real();
+                x.declare(0, 2, length, 1);
+                ask(x, 0, time);
+                x.confer();
+                Check.due("ends: worst with one at " + time, x.worst(0, 0, 0, 0), 1);
+                Check.due("ends: a second one at " + time, reason(x, 0, 0, time, 0, 0), 10);
+            }
+            Real x = new Real();
+            ask(x, 0, 0);
+            ask(x, 1, length - 1);
+            ask(x, 2, 71);
+            ask(x, 3, 72 - length);
+            ask(x, 4, 71);
+            x.confer();
+            x.declare(0, 2, length, 3);
+            Check.due("ends: the last window with three", x.worst(0, 0, 0, 0), 3);
+            x.giveBack(4, 0);
+            Check.due("ends: each with two", x.worst(0, 0, 0, 0), 2);
+            x.giveBack(2, 0);
+            Check.due("ends: the first window with two", x.worst(0, 0, 0, 0), 2);
+            Check.due("ends: a third one in it", reason(x, 0, 0, 0, 0, 0), 0);
+            x.revise(0, 0, 2);
+            Check.due("ends: not by a number of 2", reason(x, 0, 0, 0, 0, 0), 10);
+        }
+    }
+
+    private static void ask(Conference x, int carrier, int time) {
+        Scenes.ask(x, carrier, 0, 0, time, 5);
     }
 
     /** "at most so many slots of the kind", "by each rule for its kind, or EITHER". */

@@ -215,6 +215,10 @@ public final class TermsRequestsTest {
         Check.due("groups: one series", x.requestOf(request, 1), NEW);
         Check.due("groups: two series", x.isNew(2, 0), true);
         Check.due("groups: four", x.merge(1, 9), 4);
+        for (int i = 0; i < 10; i++) {
+            int carrier = i;
+            Check.refused(x, "groups: with itself", Check.STATE, () -> x.merge(carrier, carrier));
+        }
         Check.due("groups: three series", x.requestOf(request, 1), OTHER);
         int[] members = {0, 1, 2, 9};
         for (int member : members) {
@@ -312,12 +316,15 @@ public final class TermsRequestsTest {
         int later = ask(x, 0, 0, 3, 20, 9);
         Check.due("begins: other in a later one", x.requestOf(later, 1), OTHER);
         x.confer();
+        Check.due("begins: as it was sorted, behind a later one", x.requestOf(requests[0], 1), NEW);
         x.giveBack(0, 0);
         x.giveBack(1, 0);
         x.giveBack(2, 0);
         x.giveBack(3, 0);
         Check.due("begins: as it was sorted, though it is new now", x.requestOf(later, 1), OTHER);
         Check.due("begins: new now", x.isNew(0, 0), true);
+        hold(x, 1, 1);
+        Check.due("begins: as it was sorted, behind one more", x.requestOf(later, 1), OTHER);
     }
 
     /** "if this one fits, and that one does too, with this one given, both are GIVEN, otherwise both are WAITING". */
@@ -416,6 +423,18 @@ public final class TermsRequestsTest {
                 Check.due("ends: at " + time + " with " + barred, x.requestOf(0, 3), due);
             }
         }
+        for (int time = 68; time <= 71; time++) {
+            Real x = new Real();
+            x.curfew(0, 60, 71);
+            ask(x, 0, 0, 0, time, 5);
+            x.confer();
+            Check.due("ends: 71 from " + time, x.requestOf(0, time == 71 ? 2 : 3), time == 71 ? 0 : 71);
+            Real y = new Real();
+            y.curfew(0, 1, 11);
+            ask(y, 0, 0, 0, 71 - time, 5);
+            y.confer();
+            Check.due("ends: 0 from " + (71 - time), y.requestOf(0, time == 71 ? 2 : 3), 0);
+        }
         Real x = new Real();
         x.quota(0, 0);
         x.request(0, 0, 0, 0, 17, 0, 0, 1, -1);
@@ -465,6 +484,7 @@ public final class TermsRequestsTest {
         x.accept(3);
         Check.due("queue: one ahead is given", x.ahead(0), 4);
         Check.due("queue: it waits no more", x.ahead(3), -1);
+        pairInTheMidst();
         Real y = new Real();
         y.curfew(0, 0, 72);
         y.curfew(1, 0, 72);
@@ -474,6 +494,26 @@ public final class TermsRequestsTest {
         y.link(a, b);
         y.confer();
         Check.due("queue: of two airports", y.ahead(a) * 100 + y.ahead(b) * 10 + y.ahead(c), 1);
+    }
+
+    /** Both of a pair wait once, where the first of them was looked at, and nobody behind waits for them twice. */
+    private static void pairInTheMidst() {
+        int[] pair = {2, 3};
+        for (int which = 0; which < 2; which++) {
+            Real x = new Real();
+            x.curfew(0, 0, 72);
+            int[] weeks = {9, 1, 5 + 2 * which, 7 - 2 * which, 6, 3};
+            for (int i = 0; i < weeks.length; i++) {
+                ask(x, i, 0, 0, 30, weeks[i]);
+            }
+            x.link(pair[which], pair[1 - which]);
+            x.confer();
+            // By their weeks: 9, the pair by its 7, 6, then the pair's 5 that is not looked at again, 3 and 1.
+            int[] due = {0, 5, 2 - which, 1 + which, 3, 4};
+            for (int i = 0; i < due.length; i++) {
+                Check.due("pair in the midst: " + which + ", request " + i, x.ahead(i), due[i]);
+            }
+        }
     }
 
     /** "those of a later conference behind them", whatever their sort. */
@@ -513,6 +553,11 @@ public final class TermsRequestsTest {
         Check.due("accept: at the place that it had", x.ahead(1) * 100 + x.ahead(3) * 10 + x.ahead(4), 12);
         Check.due("accept: waiting", x.requestOf(3, 0), WAITING);
         Check.refusedBoolean(x, "accept: not again", Check.STATE, () -> x.accept(3));
+        int later = ask(x, 5, 0, 0, 30, 1);
+        x.curfew(0, 30, 31);
+        x.confer();
+        Check.due("accept: it waits once", x.ahead(later), 3);
+        x.curfew(0, 0, 0);
         Check.refusedBoolean(x, "accept: given already", Check.STATE, () -> x.accept(2));
         x.giveBack(1, 0);
         Check.due("accept: one behind it may be given first", x.accept(4), true);

@@ -226,6 +226,26 @@ public final class TermsSeriesTest {
         Check.due("many: series", x.count(4), 60);
         Check.due("many: the last one's series", x.requestOf(58, 2), 59);
         Check.due("many: none waits", x.count(2) + x.count(3), 0);
+        nobodyIsLeftFromASeasonAhead();
+    }
+
+    private static void nobodyIsLeftFromASeasonAhead() {
+        Real x = new Real();
+        x.curfew(0, 0, 72);
+        for (int i = 0; i < 60; i++) {
+            ask(x, i % 10, 0, i % 7, 30, 1 + i / 3);
+        }
+        x.confer();
+        x.end();
+        x.curfew(0, 30, 31);
+        ask(x, 0, 0, 0, 40, 5);
+        ask(x, 1, 0, 0, 30, 5);
+        Check.due("season ahead: one is given", x.confer(), 1);
+        Check.due("season ahead: one waits", x.ahead(1), 0);
+        Check.due("season ahead: none fits", x.giveBack(0, 4), 0);
+        x.curfew(0, 0, 0);
+        Check.due("season ahead: the one that waits", x.giveBack(0, 0), 1);
+        Check.due("season ahead: series", x.count(4), 2);
     }
 
     /** "Two series of an airport can be swapped: each gets the holder and user of the other one." */
