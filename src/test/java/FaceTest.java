@@ -6,16 +6,18 @@ import java.util.Arrays;
 import java.util.Set;
 import java.util.TreeSet;
 
-/** The face: the names, parameters and constants of the document, and no other member that can be seen. */
+/** The face: the names, parameters, throws and constants of the document, and no other member that can be seen. */
 public final class FaceTest {
+    /** Behind each method a letter for each exception that it says it throws: X index, A argument, S state. */
     private static final String[] METHODS = {
-        "accept(int) boolean", "ahead(int) int", "close(int,int,int) boolean", "confer() int", "count(int) int",
-        "curfew(int,int,int) void", "declare(int,int,int,int) int", "earns(int) boolean", "end() int",
-        "fly(int,int,int) int", "giveBack(int,int) int", "isNew(int,int) boolean", "lease(int,int) int",
-        "link(int,int) void", "load(int,int,int,int,int,int) int", "merge(int,int) int", "noise(int) int",
-        "quota(int,int) int", "request(int,int,int,int,int,int,int,int,int) int", "requestOf(int,int) int",
-        "revise(int,int,int) int", "rightOf(int,int) int", "rights() int", "season() int", "seriesOf(int,int) int",
-        "swap(int,int) void", "worst(int,int,int,int) int"
+        "accept(int) boolean XS", "ahead(int) int X", "close(int,int,int) boolean XA", "confer() int S",
+        "count(int) int A", "curfew(int,int,int) void XA", "declare(int,int,int,int) int XAS", "earns(int) boolean X",
+        "end() int S", "fly(int,int,int) int XAS", "giveBack(int,int) int XAS", "isNew(int,int) boolean X",
+        "lease(int,int) int XS", "link(int,int) void XAS", "load(int,int,int,int,int,int) int XA",
+        "merge(int,int) int XS", "noise(int) int X", "quota(int,int) int XA",
+        "request(int,int,int,int,int,int,int,int,int) int XAS", "requestOf(int,int) int XA",
+        "revise(int,int,int) int XA", "rightOf(int,int) int XA", "rights() int ", "season() int ",
+        "seriesOf(int,int) int XA", "swap(int,int) void XAS", "worst(int,int,int,int) int XA"
     };
 
     public static void main(String[] args) {
@@ -34,7 +36,7 @@ public final class FaceTest {
             if (Modifier.isPublic(each.getModifiers())) {
                 names.add(each.getName());
                 String types = Arrays.toString(each.getParameterTypes()).replaceAll("[\\[\\] ]", "");
-                seen.add(each.getName() + "(" + types + ") " + each.getReturnType());
+                seen.add(each.getName() + "(" + types + ") " + each.getReturnType() + " " + thrown(each));
             }
         }
         Check.due("public methods", seen.toString(), new TreeSet<>(Arrays.asList(METHODS)).toString());
@@ -42,6 +44,14 @@ public final class FaceTest {
             boolean isPrivate = Modifier.isPrivate(each.getModifiers());
             Check.due("hidden " + each, isPrivate && !names.contains(each.getName()), !Modifier.isPublic(each.getModifiers()));
         }
+    }
+
+    private static String thrown(Method method) {
+        StringBuilder letters = new StringBuilder();
+        for (Class<?> each : method.getExceptionTypes()) {
+            letters.append(each == Check.INDEX ? "X" : each == Check.ARGUMENT ? "A" : each == Check.STATE ? "S" : each);
+        }
+        return letters.toString();
     }
 
     private static void members(Class<?> face) {
